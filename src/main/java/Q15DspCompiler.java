@@ -287,8 +287,9 @@ public final class Q15DspCompiler {
         for (int slot = start; slot < end; slot++) {
             s += (long) tapCoefficients[slot] * values[tapNodes[slot]];
         }
+        long rounded = (s + HALF) >> FRACTION_BITS;
         // After the shift the sum is below 2^18, so the cast loses nothing.
-        return saturated((int) ((s + HALF) >> FRACTION_BITS));
+        return saturated((int) rounded);
     }
 
     private static int saturated(int v) {

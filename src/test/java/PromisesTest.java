@@ -41,6 +41,7 @@ public final class PromisesTest {
         promise3Answers();
         promise3OrderOfTests();
         promise3BeginsRunUnlessRefused();
+        promise3EveryTapOfEverySum();
         promise4Nodes();
         promise5Loops();
         promise5NumbersThatNameNothing();
@@ -232,6 +233,23 @@ public final class PromisesTest {
         x.tap(1, 0, 0);
         due("3: samples after a FULL tap", x.samples(), 1);
         due("3: value after a FULL tap", x.value(0), 10);
+    }
+
+    private static void promise3EveryTapOfEverySum() {
+        Q15DspCompiler x = new Q15DspCompiler();
+        x.node(CONSTANT, 16384, 0);
+        for (int i = 1; i < 20; i++) {
+            x.node(SUM, 0, 0);
+        }
+        for (int i = 1; i < 20; i++) {
+            for (int t = 1; t <= 6; t++) {
+                due("3: tap " + t + " of SUM " + i, x.tap(i, 0, 2 * i * t), t);
+            }
+        }
+        x.feed(0);
+        for (int i = 1; i < 20; i++) {
+            due("3: value of SUM " + i, x.value(i), 21 * i);
+        }
     }
 
     private static void promise4Nodes() {
@@ -589,6 +607,13 @@ public final class PromisesTest {
         }
         x.feed(-9);
         due("8: INPUT in the latest sample", x.value(1), -9);
+        for (int i = 2; i < 20; i++) {
+            x.node(INPUT, 0, 0);
+        }
+        x.feed(3);
+        due("8: the last of twenty", x.value(19), 3);
+        due("8: beyond twenty", x.value(20), 0);
+        due("8: before the first of twenty", x.value(-1), 0);
     }
 
     private static void promise9Samples() {
@@ -662,5 +687,19 @@ public final class PromisesTest {
         x.feed(5);
         due("11: delay after", x.value(1), 0);
         due("11: second delay after", x.value(2), 0);
+        x.clear();
+        x.node(SUM, 0, 0);
+        x.node(CONSTANT, 16384, 0);
+        for (int t = 0; t < 6; t++) {
+            x.tap(0, 1, 2);
+        }
+        x.clear();
+        x.node(SUM, 0, 0);
+        x.node(CONSTANT, 16384, 0);
+        x.feed(0);
+        due("11: old taps play no part", x.value(0), 0);
+        x.tap(0, 1, 10);
+        x.feed(0);
+        due("11: old taps play no part beside a new one", x.value(0), 5);
     }
 }
